@@ -66,6 +66,23 @@ final class Chance {
         return t.length() == 0 ? "p" : t.toString();
     }
 
+    /** A law that leaves nobody untouched: every harm, worth and passing has a number of its own. */
+    String richLaw() {
+        StringBuilder t = new StringBuilder();
+        if (one(3)) {
+            t.append("p[f*").append(below(90)).append("+g*").append(below(90)).append("+s]%5<").append(from(2, 4))
+                    .append("&1=1);");
+            t.insert(1, '(');
+        }
+        t.append("h[f*").append(below(90)).append("+g*").append(below(90)).append("+s*").append(below(90))
+                .append("+t*").append(below(90)).append("]%").append(from(3, 120)).append("-l(d<3|o=0);");
+        t.append("w[f*").append(below(90)).append("+s*").append(below(90)).append("]%").append(from(3, 220))
+                .append("-").append(below(100)).append("(!s=").append(below(20)).append(");");
+        t.append("v[f*").append(below(90)).append("+s*").append(below(90)).append("+t*").append(below(90))
+                .append("]%").append(from(3, 1100)).append("(1=1)");
+        return t.toString();
+    }
+
     private void condition(StringBuilder t, int depth) {
         int parts = one(3) ? 2 : 1;
         for (int k = 0; k < parts; k++) {

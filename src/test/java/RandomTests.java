@@ -33,6 +33,41 @@ public final class RandomTests {
         return chance.one(40) || n == 0 ? chance.from(-2, 17) : chance.below(n);
     }
 
+    /** Half of the time one NEXT to a guest, if anybody is. */
+    private int someOther(int g) {
+        for (int k = 0; k < 12 && g >= 0 && g < model.people.size() && !chance.one(6); k++) {
+            int h = chance.below(model.people.size());
+            if (table.two(g, h, 0) >= 0) {
+                return h;
+            }
+        }
+        return someGuest();
+    }
+
+    /** Whether the last of k + 1 seats stands there already, or somebody sits there who is not told. */
+    private boolean isOthers(int[] seats, int k, int bits) {
+        for (int i = 0; i < k; i++) {
+            if (seats[i] == seats[k]) {
+                return true;
+            }
+        }
+        for (int g = 0; g < model.people.size(); g++) {
+            if (model.people.get(g).seat == seats[k] && (bits >> g & 1) == 0) {
+                return true;
+            }
+        }
+        return false;
+    }
+
+    private boolean isTaken(int seat) {
+        for (Model.Person p : model.people) {
+            if (p.seat == seat && seat >= 0) {
+                return true;
+            }
+        }
+        return false;
+    }
+
     private int seatsMost;
 
     private int someSeat() {
@@ -54,7 +89,7 @@ public final class RandomTests {
     }
 
     private void law() {
-        String text = chance.law();
+        String text = chance.one(4) ? chance.richLaw() : chance.law();
         int[] bytes = new int[text.length()];
         for (int k = 0; k < bytes.length; k++) {
             bytes[k] = text.charAt(k) & 255;
@@ -74,6 +109,9 @@ public final class RandomTests {
         int[] bytes = new int[Math.max(0, Math.min(n, 20))];
         for (int k = 0; k < bytes.length; k++) {
             bytes[k] = someSeat() & 255;
+            for (int i = 0; i < 20 && !chance.one(90) && isOthers(bytes, k, bits); i++) {
+                bytes[k] = chance.below(40);
+            }
         }
         if (n > 0 && !chance.one(20)) {
             feed(bytes);
@@ -132,6 +170,9 @@ public final class RandomTests {
             case 0: {
                 int land = chance.one(30) ? chance.from(-1, 2) : chance.below(2);
                 int seat = chance.one(6) ? -1 : someSeat();
+                for (int k = 0; k < 3 && isTaken(seat); k++) {
+                    seat = someSeat();
+                }
                 due("guest(" + land + ", " + seat + ")", table.guest(land, seat), model.guest(land, seat));
                 break;
             }
@@ -141,7 +182,10 @@ public final class RandomTests {
                 break;
             }
             case 2: {
-                int seat = chance.one(6) ? -1 : someSeat();
+                int seat = chance.one(12) ? -1 : someSeat();
+                for (int k = 0; k < 3 && isTaken(seat); k++) {
+                    seat = someSeat();
+                }
                 due("sit(" + a + ", " + seat + ")", bit(table.sit(a, seat)), bit(model.sit(a, seat)));
                 break;
             }
@@ -149,7 +193,7 @@ public final class RandomTests {
                 due("heir(" + a + ", " + b + ")", bit(table.heir(a, b)), bit(model.heir(a, b)));
                 break;
             case 4:
-                if (chance.one(3)) {
+                if (chance.one(10)) {
                     due("dies(" + a + ")", table.dies(a), model.dies(a));
                 }
                 break;
@@ -157,6 +201,9 @@ public final class RandomTests {
                 due("keep", table.keep(), model.keep());
                 break;
             case 6:
+                if (!chance.one(3)) {
+                    break;
+                }
                 due("undo", bit(table.undo()), bit(model.undo()));
                 break;
             default:
@@ -166,7 +213,7 @@ public final class RandomTests {
 
     private void lawCall(int kind) {
         int a = someGuest();
-        int b = someGuest();
+        int b = someOther(a);
         int minute = chance.one(30) ? chance.from(-1, 101) : chance.below(30);
         switch (kind) {
             case 0:
@@ -183,6 +230,7 @@ public final class RandomTests {
                 break;
             }
             case 3:
+                b = chance.one(3) ? b : someGuest();
                 due("soonest(" + a + ", " + b + ", " + minute + ")", table.soonest(a, b, minute),
                         model.soonest(a, b, minute));
                 break;
@@ -193,6 +241,7 @@ public final class RandomTests {
                 break;
             }
             case 5: {
+                b = chance.one(3) ? b : someGuest();
                 int what = chance.one(8) ? chance.from(-1, 17) : chance.one(2) ? chance.below(3) : chance.from(10, 16);
                 due("smuggled(" + a + ", " + b + ", " + what + ")", table.smuggled(a, b, what),
                         model.smuggled(a, b, what));
@@ -248,7 +297,7 @@ public final class RandomTests {
                 break;
             }
             case 3:
-                if (chance.one(6)) {
+                if (chance.one(2)) {
                     due("exchanges", table.exchanges(), model.exchanges());
                 }
                 break;
@@ -282,7 +331,7 @@ public final class RandomTests {
                 int from = chance.one(20) ? somePlace() : chance.below(4);
                 int to = chance.one(20) ? somePlace() : chance.one(3) ? 19 : from + chance.below(4);
                 int n = chance.one(30) ? chance.from(-1, 1001) : chance.below(4);
-                for (int k = from; k <= to && side >= 0 && side < 2 && from >= 0 && to < 20 && !chance.one(9); k++) {
+                for (int k = from; k <= to && side >= 0 && side < 2 && from >= 0 && to < 20 && !chance.one(14); k++) {
                     n = (k == from ? 0 : n) + model.knives[2 * k + side];
                 }
                 due("counted(" + side + ", " + from + ", " + to + ", " + n + ")", table.counted(side, from, to, n),
@@ -301,14 +350,18 @@ public final class RandomTests {
 
     private void platesCall(int kind) {
         int a = someGuest();
-        int b = someGuest();
+        int b = someOther(a);
         int n = chance.one(20) ? chance.from(-1, 101) : chance.one(3) ? chance.from(1, 99) : chance.from(1, 9);
         switch (kind) {
             case 0:
+            case 1:
+                n = chance.one(2) ? 99 : n;
                 due("gives(" + a + ", " + n + ")", table.gives(a, n), model.gives(a, n));
                 break;
-            case 1:
             case 2:
+            case 6:
+            case 7:
+                n = chance.one(2) ? n : chance.from(1, 4);
                 due("passes(" + a + ", " + b + ", " + n + ")", table.passes(a, b, n), model.passes3(a, b, n));
                 break;
             case 3:
@@ -328,8 +381,11 @@ public final class RandomTests {
 
     private boolean play() {
         // some runs have a short table, where all sit close
-        seatsMost = chance.one(3) ? 40 : chance.from(8, 24);
-        int guests = chance.from(0, 16);
+        seatsMost = chance.one(4) ? 40 : chance.from(8, 24);
+        int guests = chance.one(10) ? chance.from(0, 3) : chance.from(4, 18);
+        if (chance.one(2)) {
+            law();
+        }
         for (int g = 0; g < guests; g++) {
             guestsCall(0);
         }
@@ -352,7 +408,7 @@ public final class RandomTests {
                     knivesCall(chance.below(5));
                     break;
                 default:
-                    platesCall(chance.below(6));
+                    platesCall(chance.below(8));
             }
         }
         state();
