@@ -1461,10 +1461,17 @@ public final class BorderTable {
             bestGuest = NONE;
             bestSeat = NONE;
             for (int g = 0; g < guests.number(); g++) {
-                for (int seat = 0; seat < Seats.MOST && guests.sits(g); seat++) {
+                boolean sits = guests.sits(g);
+                int stays = sits ? cost(g, guests.seatOf(g), 0) : 0;
+                for (int seat = 0; seat < Seats.MOST && sits; seat++) {
                     int other = guests.at(seat);
-                    // with a lower GUEST it was looked at when that one's turn was
-                    int then = other == NONE || other > g ? now + change(g, seat, other) : now;
+                    int then = now;
+                    if (other == NONE) {
+                        then += cost(g, seat, 0) - stays;
+                    } else if (other > g) {
+                        // with a lower GUEST it was looked at when that one's turn was
+                        then += change(g, seat, other);
+                    }
                     if (then < bestSum) {
                         bestSum = then;
                         bestGuest = g;
@@ -1475,12 +1482,9 @@ public final class BorderTable {
             return bestGuest != NONE;
         }
 
-        /** How much more THE SUM is after an EXCHANGE. */
+        /** How much more THE SUM is after two GUESTS' EXCHANGE. */
         private int change(int g, int seat, int other) {
             int from = guests.seatOf(g);
-            if (other == NONE) {
-                return cost(g, seat, 0) - cost(g, from, 0);
-            }
             int both = 1 << g | 1 << other;
             int before = cost(g, from, both) + cost(other, seat, both) + judge.quarrel(g, from, other, seat);
             int after = cost(g, seat, both) + cost(other, from, both) + judge.quarrel(g, seat, other, from);
