@@ -209,6 +209,12 @@ public final class Boundary1To20Tests extends Quoting {
         is("three", law(t, "w1(1=1);h2(1=1);v3(1=1)"), 3);
         is("one", law(t, "w4(1=1)"), 1);
         is("clauses", t.count(1), 1);
+        BorderTable v = at(0, 1);
+        law(v, "w1(1=1);p(1=0)");
+        for (int k = 0; k < 3; k++) {
+            law(v, "w1(1=1)");
+            is("nothing is left of an earlier one, " + k, v.two(0, 1, 0), 1);
+        }
         for (int k = 0; k < 30; k++) {
             is("long ones", law(t, "p(" + "1=1&".repeat(46) + "f=" + k % 3 + ")"), 1);
             BorderTable u = at(0, 1);
@@ -423,6 +429,7 @@ public final class Boundary1To20Tests extends Quoting {
         says("else from whom GUEST what has it");
         is("from the first", t.rumour(0, 0, 1), 0);
         is("from the second", t.rumour(0, 0, 3), 1);
+        is("the first gets it, too", t.rumour(4, 0, 0), 2);
         says("(the lowest of those by whom it gets it first");
         is("3 and 4 get it at once, 5 by either", t.rumour(0, 0, 5), 3);
         law(t, "p(!(f=0&g=5|f=5|f=1&g=3))");

@@ -63,6 +63,25 @@ public final class PromiseTests extends Asking {
         due("3 sum knows again", t.sum(), 19);
         t.dies(1);
         due("3 a dead one is liked", t.liking(0, 1, 5), true);
+        likedSince();
+    }
+
+    /** What was reckoned once must not be answered again after any number of likings. */
+    private static void likedSince() {
+        for (int first = 0; first < 20; first++) {
+            for (int since = 1; since < 30; since++) {
+                BorderTable t = at(0, 2);
+                law(t, "h10+l(1=1)");
+                for (int k = 0; k < first; k++) {
+                    t.liking(0, 1, 1);
+                }
+                due("3 before", t.sum(), first == 0 ? 10 : 11);
+                for (int k = 0; k < since; k++) {
+                    t.liking(0, 1, k % 2 + 5);
+                }
+                due("3 " + since + " since " + first, t.sum(), 16 - since % 2);
+            }
+        }
     }
 
     private static void sit() {

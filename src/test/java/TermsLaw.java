@@ -179,6 +179,7 @@ final class TermsLaw extends Quoting {
         says("a PIECE: !PIECE, (C), or E, one of < > =, and E");
         is("!", holds("!1=0"), true);
         is("!!", holds("!!1=0"), false);
+        is("! of each sign", holds("!1<2") || holds("!2>1") || holds("!1=1"), false);
         is("! ends with its piece", holds("!1=0&1=1"), true);
         is("! of the first alone", holds("!1=1|1=1"), true);
         is("(C)", holds("(1=0|1=1)&1=1"), true);

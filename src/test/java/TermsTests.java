@@ -364,6 +364,23 @@ public final class TermsTests extends Quoting {
         is("2 and 4 are not 5", t.wrong(), 1);
         t.knives(38, 1);
         is("they are 6", t.wrong(), NONE);
+        for (int side = 0; side < 2; side++) {
+            BorderTable back = new BorderTable();
+            back.counted(1 - side, 0, 0, 0);
+            back.counted(side, 10, 19, 5);
+            for (int k = 0; k < 3; k++) {
+                is("5 less than none is left, asked again", back.wrong(), NONE);
+            }
+            back.knives(2 + side, 3);
+            is("2 less than none is left", back.wrong(), NONE);
+            back.knives(2 + side, 0);
+            back.counted(side, 0, 9, 4);
+            back.counted(side, 0, 9, 5);
+            is("5 and 4 are not 0", back.wrong(), 2);
+        }
+        BorderTable one = new BorderTable();
+        one.counted(0, 0, 0, 5);
+        is("nobody's word behind it", one.wrong(), NONE);
         says("whatever the SEATS have");
         t.put(0, 20, 5);
         is("not as it is, but it might be", t.wrong(), NONE);
