@@ -764,16 +764,7 @@ public final class BorderTable {
         private boolean readPiece(int open) {
             int sign = peek();
             if (sign == '!' || sign == '(') {
-                if (open >= OPEN_MOST) {
-                    return fail(5);
-                }
-                at++;
-                if (sign == '(') {
-                    return readCondition(open + 1) && accept(')');
-                }
-                boolean fine = readPiece(open + 1);
-                draft.add('!', 0);
-                return fine;
+                return readInner(sign, open);
             }
             if (!readSum(open)) {
                 return false;
@@ -785,6 +776,20 @@ public final class BorderTable {
             at++;
             boolean fine = readSum(open);
             draft.add(compare, 0);
+            return fine;
+        }
+
+        /** What stands behind a ! or between ( and ). */
+        private boolean readInner(int sign, int open) {
+            if (open >= OPEN_MOST) {
+                return fail(5);
+            }
+            at++;
+            if (sign == '(') {
+                return readCondition(open + 1) && accept(')');
+            }
+            boolean fine = readPiece(open + 1);
+            draft.add('!', 0);
             return fine;
         }
 
@@ -1343,14 +1348,18 @@ public final class BorderTable {
             if (passings < 0 || passings > PASSINGS_MOST) {
                 return;
             }
-            int last = row[passings];
-            if (last == target) {
+            if (row[passings] == target) {
                 noteIfBetter(passings, odds);
+            } else if (passings < PASSINGS_MOST) {
+                tryNext(passings, odds, met);
+            }
+        }
+
+        private void tryNext(int passings, long odds, int met) {
+            if (passings < 0 || passings >= PASSINGS_MOST) {
                 return;
             }
-            if (passings == PASSINGS_MOST) {
-                return;
-            }
+            int last = row[passings];
             for (int g = 0; g < guests.number(); g++) {
                 if ((met >> g & 1) == 0 && guests.sits(g)
                         && Seats.areNext(guests.seatOf(last), guests.seatOf(g))) {
@@ -1566,28 +1575,32 @@ public final class BorderTable {
         /** Rows come in their order, so of like ones the first that was found is the least. */
         private void choose(int k, int cost, int used) {
             if (k < 0 || k >= told || k >= TOLD_MOST) {
-                if (!any || cost < leastCost) {
-                    any = true;
-                    leastCost = cost;
-                    System.arraycopy(chosen, 0, bestChosen, 0, TOLD_MOST);
-                }
+                noteIfLess(cost);
                 return;
             }
             for (int i = 0; i < told && i < TOLD_MOST; i++) {
                 if ((used >> i & 1) == 0) {
                     chosen[k] = toldSeats[i];
-                    choose(k + 1, cost + alone[k * TOLD_MOST + i] + quarrels(k), used | 1 << i);
+                    seatOthers(k, cost + alone[k * TOLD_MOST + i], used | 1 << i);
                 }
             }
         }
 
-        /** The HARMS of told GUEST k with the told ones ahead of it, at the chosen SEATS. */
-        private int quarrels(int k) {
-            int harms = 0;
+        /** Adds the HARMS of told GUEST k with the told ones ahead of it, then seats those behind it. */
+        private void seatOthers(int k, int cost, int used) {
+            int all = cost;
             for (int j = 0; j < k && k < TOLD_MOST; j++) {
-                harms += judge.quarrel(toldGuests[j], chosen[j], toldGuests[k], chosen[k]);
+                all += judge.quarrel(toldGuests[j], chosen[j], toldGuests[k], chosen[k]);
             }
-            return harms;
+            choose(k + 1, all, used);
+        }
+
+        private void noteIfLess(int cost) {
+            if (!any || cost < leastCost) {
+                any = true;
+                leastCost = cost;
+                System.arraycopy(chosen, 0, bestChosen, 0, TOLD_MOST);
+            }
         }
 
         /** The best SEAT of a told GUEST. */

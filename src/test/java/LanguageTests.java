@@ -1,3 +1,4 @@
+import java.lang.reflect.Array;
 import java.lang.reflect.Constructor;
 import java.lang.reflect.Field;
 import java.lang.reflect.Method;
@@ -6,6 +7,8 @@ import java.nio.charset.StandardCharsets;
 import java.nio.file.Files;
 import java.nio.file.Path;
 import java.util.ArrayList;
+import java.util.Collections;
+import java.util.IdentityHashMap;
 import java.util.List;
 import java.util.Set;
 import java.util.TreeSet;
@@ -94,7 +97,6 @@ public final class LanguageTests {
         String[] never = {"->", "::", "throw ", "catch", "try ", "finally", "synchronized", "assert ", "import ",
             "package ", "Exact(", "System.out", "record ", "yield ", "var ", "hashCode", "toString", "native "};
         Set<String> library = Set.of("Math.abs", "Math.max", "Math.min", "Integer.bitCount", "System.arraycopy");
-        int from = -1;
         for (int k = 0; k < lines.size(); k++) {
             String line = lines.get(k);
             must(line.length() <= 120, "line " + (k + 1) + " has 120 signs at most");
@@ -111,13 +113,79 @@ public final class LanguageTests {
                         || word.startsWith("Long.") || word.startsWith("Arrays.");
                 must(!asked || library.contains(word), "line " + (k + 1) + ": " + word + " is in the list");
             }
-            if (line.matches("( {4}| {8})[a-zA-Z].*\\) \\{")) {
+        }
+        methods(lines);
+    }
+
+    /** Finds each method's first and last line. */
+    private static void methods(List<String> lines) {
+        int from = -1;
+        String end = "";
+        for (int k = 0; k < lines.size(); k++) {
+            String line = lines.get(k);
+            if (from < 0 && line.matches("( {4}| {8})(?!if|for|while|switch|do)[a-zA-Z].*\\) \\{")) {
                 from = k;
-            } else if (from >= 0 && line.matches("( {4}| {8})\\}")) {
+                end = line.substring(0, line.indexOf(line.trim())) + "}";
+            } else if (from >= 0 && line.equals(end)) {
                 must(k - from < 60, "the method at line " + (from + 1) + " is short");
+                noSelfCall(lines, from, k);
+                noNewObject(lines, from, k);
                 from = -1;
             }
         }
+        must(from < 0, "each method ends");
+    }
+
+    /** Rule 8 knows methods of objects that call one another, none that calls itself. */
+    private static void noSelfCall(List<String> lines, int from, int to) {
+        String name = lines.get(from).replaceFirst("\\(.*", "").replaceFirst(".* ", "");
+        for (int k = from + 1; k < to; k++) {
+            boolean calls = lines.get(k).matches(".*(?<![\\w.])" + name + "\\(.*");
+            must(!calls, "line " + (k + 1) + ": " + name + " does not call itself");
+        }
+    }
+
+    /** All calls of a run live in one room: what a table needs is made with it. */
+    private static void noNewObject(List<String> lines, int from, int to) {
+        boolean makesTable = lines.get(from).contains("public BorderTable(");
+        for (int k = from + 1; k < to && !makesTable; k++) {
+            must(!lines.get(k).contains("new "), "line " + (k + 1) + " makes no object");
+        }
+    }
+
+    /** How much room a table takes: its objects and rows, their fields and elements. */
+    private static void room() throws Exception {
+        Set<Object> seen = Collections.newSetFromMap(new IdentityHashMap<>());
+        int size = measure(new BorderTable(), seen);
+        must(seen.size() < 100, "a table has less than 100 objects and rows: " + seen.size());
+        must(size < 60000, "a table has less than 60000 fields and elements: " + size);
+    }
+
+    private static int measure(Object o, Set<Object> seen) throws Exception {
+        if (o == null || !seen.add(o)) {
+            return 0;
+        }
+        if (o.getClass().isArray()) {
+            return Array.getLength(o);
+        }
+        int size = 0;
+        for (Field f : o.getClass().getDeclaredFields()) {
+            if (!Modifier.isStatic(f.getModifiers())) {
+                f.setAccessible(true);
+                size += 1 + (f.getType().isPrimitive() ? 0 : measure(f.get(o), seen));
+            }
+        }
+        return size;
+    }
+
+    private static BorderTable someTable(Chance chance) {
+        BorderTable t = new BorderTable();
+        int guests = chance.below(17);
+        for (int g = 0; g < guests; g++) {
+            t.guest(chance.below(2), chance.below(16));
+        }
+        Asking.law(t, chance.richLaw());
+        return t;
     }
 
     /** Calls with the oddest numbers, more of them than an object is used for. */
@@ -130,7 +198,7 @@ public final class LanguageTests {
         BorderTable t = new BorderTable();
         for (int call = 0; call < 200000; call++) {
             if (call % 3000 == 0) {
-                t = new BorderTable();
+                t = someTable(chance);
             }
             Method m = methods[chance.below(methods.length)];
             if (!Modifier.isPublic(m.getModifiers())) {
@@ -152,6 +220,7 @@ public final class LanguageTests {
     public static void main(String[] args) throws Exception {
         face();
         text();
+        room();
         oddNumbers();
         System.out.println(bad == 0 ? "the language is kept to" : bad + " rules are not kept to");
         if (bad != 0) {
